@@ -43,6 +43,12 @@ public final class RoadOfDoors {
     private static final int WAITED = 6;
     private static final int LOAD = 7;
     private static final int NAMES = 8;
+    private static final int BY_DOOR = 1 << DOOR | 1 << MOOD;
+    private static final int BY_HOUR = 1 << HOUR | 1 << RAIN;
+    private static final int BY_GIFT = 1 << GIFT;
+    private static final int BY_KNOCKS = 1 << KNOCKS;
+    private static final int BY_WAITED = 1 << WAITED;
+    private static final int BY_LOAD = 1 << LOAD;
 
     // What a token is; an operator's kind is also its word in a compiled text (less than 0 there).
     private static final int NO_TOKEN = 0;
@@ -320,7 +326,10 @@ public final class RoadOfDoors {
                 rules.learn(road.rule[door], door, load);
             }
         }
-        if (!ways.find(road.rule, load, keys, hour, n, purse, soonest)) {
+        boolean is = soonest
+                ? ways.findSoonest(road.rule, load, keys, hour, n, purse)
+                : ways.findCheapest(road.rule, load, keys, hour, n, purse);
+        if (!is) {
             return NO_WAY;
         }
         if (what == NONE) {
@@ -688,10 +697,6 @@ public final class RoadOfDoors {
             if (within(clauses, 1, MOST_CLAUSES)) {
                 amounts[clauses - 1] = amount;
             }
-        }
-
-        boolean looks(int name) {
-            return (looksAt >> name & 1) == 1;
         }
     }
 
@@ -1135,7 +1140,7 @@ public final class RoadOfDoors {
         }
 
         boolean looksAtWaited(int rule) {
-            return isOpening(rule) && texts[rule].looks(WAITED);
+            return rule >= 0 && rule < MOST_TEXTS && (texts[rule].looksAt & BY_WAITED) != 0;
         }
 
         boolean opensBy(int rule, int door, int hour, int knocks, int gift, int waited, int load) {
@@ -1151,19 +1156,19 @@ public final class RoadOfDoors {
 
         /** Where the hours of a rule at a door begin; what a text doesn't look at needs no place of its own. */
         int placeOf(int rule, int door, int load) {
-            if (!isOpening(rule)) {
+            if (rule < 0 || rule >= MOST_TEXTS) {
                 return NONE;
             }
-            Text text = texts[rule];
-            int ofDoor = text.looks(DOOR) || text.looks(MOOD) ? door : 0;
-            int ofLoad = text.looks(LOAD) ? load : 0;
+            int looksAt = texts[rule].looksAt;
+            int ofDoor = (looksAt & BY_DOOR) != 0 ? door : 0;
+            int ofLoad = (looksAt & BY_LOAD) != 0 ? load : 0;
             return ((rule * doors + ofDoor) * (MOST_LOAD + 1) + ofLoad) * HOURS;
         }
 
         /** What has been learnt: at each waited gift * 8 + knocks, the least gift, then the fewest knocks, or SHUT. */
         long leastsAt(int place, int hour) {
             int at = place + hour;
-            return place >= 0 && hour >= 0 && at < leasts.length ? leasts[at] : 0L;
+            return place >= 0 && hour >= 0 && at < leasts.length ? leasts[at] : FREE;
         }
 
         void learn(int rule, int door, int load) {
@@ -1171,12 +1176,12 @@ public final class RoadOfDoors {
                 Arrays.fill(leasts, 0L);
                 stale = false;
             }
-            int place = placeOf(rule, door, load);
+            int place = isOpening(rule) ? placeOf(rule, door, load) : NONE;
             if (place < 0 || place > leasts.length - HOURS || leasts[place] != 0L) {
                 return;
             }
             Text text = texts[rule];
-            boolean byHour = text.looks(HOUR) || text.looks(RAIN);
+            boolean byHour = (text.looksAt & BY_HOUR) != 0;
             for (int hour = 0; hour < HOURS; hour++) {
                 if (hour == 0 || byHour) {
                     face(door, hour, load);
@@ -1189,9 +1194,9 @@ public final class RoadOfDoors {
 
         private long searched(Text text) {
             long found = 0L;
-            int mostWaited = text.looks(WAITED) ? MOST_WAITED : 0;
-            int mostGift = text.looks(GIFT) ? MOST_GIFT : 0;
-            int mostKnocks = text.looks(KNOCKS) ? MOST_KNOCKS : 1;
+            int mostWaited = (text.looksAt & BY_WAITED) != 0 ? MOST_WAITED : 0;
+            int mostGift = (text.looksAt & BY_GIFT) != 0 ? MOST_GIFT : 0;
+            int mostKnocks = (text.looksAt & BY_KNOCKS) != 0 ? MOST_KNOCKS : 1;
             for (int waited = 0; waited <= mostWaited; waited++) {
                 names[WAITED] = waited;
                 int least = SHUT;
@@ -1238,6 +1243,7 @@ public final class RoadOfDoors {
         }
 
         private static int joined(int kind, int a, int b) {
+            long value = 0L;
             switch (kind) {
                 case OR:
                     return a | b;
@@ -1256,19 +1262,18 @@ public final class RoadOfDoors {
                 case UNLIKE:
                     return a != b ? 1 : 0;
                 case PLUS:
-                    return limited((long) a + b);
+                    value = (long) a + b;
+                    break;
                 case MINUS:
-                    return limited((long) a - b);
+                    value = (long) a - b;
+                    break;
                 case TIMES:
-                    return limited((long) a * b);
-                case OVER:
-                    return b == 0 ? 0 : a / b;
+                    value = (long) a * b;
+                    break;
                 default:
-                    return 0;
+                    value = b == 0 ? 0L : a / b;
+                    break;
             }
-        }
-
-        private static int limited(long value) {
             if (value > MOST_VALUE) {
                 return MOST_VALUE;
             }
@@ -1289,7 +1294,7 @@ public final class RoadOfDoors {
         private final int[] costs = new int[2 * COSTS_OF_HOUR];
         // For each hour and door: bits of the waited at which to knock.
         private final int[] goes = new int[MOST_WAY_HOURS * MOST_DOORS];
-        private final boolean[] free = new boolean[MOST_DOORS];
+        // Where what has been learnt of each door's rule begins; NONE: it is free.
         private final int[] places = new int[MOST_DOORS];
         // The highest waited that can make a difference at each door.
         private final int[] mostWaited = new int[MOST_DOORS];
@@ -1302,38 +1307,24 @@ public final class RoadOfDoors {
         }
 
         /** False: there is no way. */
-        boolean find(int[] rule, int load, int keys, int hour, int n, int purse, boolean soonest) {
+        boolean findCheapest(int[] rule, int load, int keys, int hour, int n, int purse) {
             if (!canPass(rule, load, keys)) {
                 return false;
             }
             firstHour = hour;
             int cost = cheapest(n);
-            if (cost >= NEVER || cost >> HOURS_BITS > purse) {
+            boolean is = cost < NEVER && cost >> HOURS_BITS <= purse;
+            if (is) {
+                walk(cost);
+            }
+            return is;
+        }
+
+        /** It is the cheapest within the fewest hours in which the cheapest can be paid. */
+        boolean findSoonest(int[] rule, int load, int keys, int hour, int n, int purse) {
+            if (!findCheapest(rule, load, keys, hour, n, purse)) {
                 return false;
             }
-            if (soonest) {
-                cost = cheapest(fewestHours(n, purse));
-            }
-            gifts = cost >> HOURS_BITS;
-            hours = cost & HOURS_MASK;
-            walk();
-            return true;
-        }
-
-        private boolean canPass(int[] rule, int load, int keys) {
-            for (int door = 0; door < doors && door < rule.length; door++) {
-                free[door] = road.unhinged[door] || hasKey(keys, door);
-                places[door] = rules.placeOf(rule[door], door, load);
-                mostWaited[door] = !free[door] && rules.looksAtWaited(rule[door]) ? MOST_WAITED : 0;
-                if (!free[door] && places[door] == NONE) {
-                    return false;
-                }
-            }
-            return true;
-        }
-
-        /** The soonest way is the cheapest within the fewest hours in which the cheapest can be paid. */
-        private int fewestHours(int n, int purse) {
             int low = doors;
             int high = n;
             for (int i = 0; i < MOST_WAY_HOURS && low < high; i++) {
@@ -1344,7 +1335,20 @@ public final class RoadOfDoors {
                     low = middle + 1;
                 }
             }
-            return high;
+            walk(cheapest(high));
+            return true;
+        }
+
+        private boolean canPass(int[] rule, int load, int keys) {
+            for (int door = 0; door < doors && door < rule.length; door++) {
+                boolean free = road.unhinged[door] || hasKey(keys, door);
+                if (!free && !rules.isOpening(rule[door])) {
+                    return false;
+                }
+                places[door] = free ? NONE : rules.placeOf(rule[door], door, load);
+                mostWaited[door] = !free && rules.looksAtWaited(rule[door]) ? MOST_WAITED : 0;
+            }
+            return true;
         }
 
         private int cheapest(int n) {
@@ -1354,14 +1358,10 @@ public final class RoadOfDoors {
             for (int t = Math.min(n, MOST_WAY_HOURS) - 1; t >= 0; t--) {
                 costs[(t & 1) * COSTS_OF_HOUR + doors * COSTS_OF_DOOR] = t;
                 for (int door = 0; door < doors && door <= t; door++) {
-                    choose(t, door, leastsAt(t, door));
+                    choose(t, door, rules.leastsAt(places[door], (firstHour + t) % HOURS));
                 }
             }
             return costs[0];
-        }
-
-        private long leastsAt(int t, int door) {
-            return free[door] ? FREE : rules.leastsAt(places[door], (firstHour + t) % HOURS);
         }
 
         private void choose(int t, int door, long leasts) {
@@ -1385,13 +1385,16 @@ public final class RoadOfDoors {
             goes[t * MOST_DOORS + door] = bits;
         }
 
-        private void walk() {
+        private void walk(int cost) {
+            gifts = cost >> HOURS_BITS;
+            hours = cost & HOURS_MASK;
             Arrays.fill(given, 0);
             int door = 0;
             int waited = 0;
             for (int t = 0; t < hours && t < MOST_WAY_HOURS && door < doors; t++) {
                 if ((goes[t * MOST_DOORS + door] >> waited & 1) == 1) {
-                    int least = (int) (leastsAt(t, door) >> waited * LEAST_BITS) & LEAST_MASK;
+                    long leasts = rules.leastsAt(places[door], (firstHour + t) % HOURS);
+                    int least = (int) (leasts >> waited * LEAST_BITS) & LEAST_MASK;
                     given[door] = least >> KNOCKS_BITS;
                     acts[t] = 10 * (least & KNOCKS_MASK) + given[door];
                     door++;
@@ -1470,20 +1473,14 @@ public final class RoadOfDoors {
         private void startTrial(boolean changes) {
             settled = false;
             System.arraycopy(road.rule, 0, trial, 0, MOST_DOORS);
-            for (int door = 0; door < doors; door++) {
-                for (int rule = 0; rule < road.told; rule++) {
-                    if (changes || rule == trial[door]) {
-                        learn(rule, door);
-                    }
-                }
-            }
-        }
-
-        private void learn(int rule, int door) {
             for (int i = 0; i < road.guestCount && i < MOST_GUESTS; i++) {
-                int at = i * GUEST_ROW;
-                if (!road.unhinged[door] && !hasKey(road.guests[at + 1], door)) {
-                    rules.learn(rule, door, road.guests[at]);
+                for (int door = 0; door < doors; door++) {
+                    boolean shut = !road.unhinged[door] && !hasKey(road.guests[i * GUEST_ROW + 1], door);
+                    for (int rule = 0; rule < road.told; rule++) {
+                        if (shut && (changes || rule == trial[door])) {
+                            rules.learn(rule, door, road.guests[i * GUEST_ROW]);
+                        }
+                    }
                 }
             }
         }
@@ -1533,7 +1530,7 @@ public final class RoadOfDoors {
                 int at = i * GUEST_ROW;
                 int keys = row[at + 1];
                 if (!hasKey(keys, door)
-                        && ways.find(trial, row[at], keys, row[at + 2], HOURS, row[at + 3], false)) {
+                        && ways.findCheapest(trial, row[at], keys, row[at + 2], HOURS, row[at + 3])) {
                     sum += ways.given[door];
                 }
             }
