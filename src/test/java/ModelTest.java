@@ -37,6 +37,9 @@ public final class ModelTest {
         for (long seed = first; seed < first + runs / 2; seed++) {
             everyWay(new Random(seed), checks);
         }
+        for (long seed = first; seed < first + runs / 8; seed++) {
+            earnings(new Random(seed), checks);
+        }
         checks.end();
     }
 
@@ -185,6 +188,29 @@ public final class ModelTest {
                 t.due("way", t.x.way(load, 0, hour, n, purse, soonest, what),
                         t.m.way(load, 0, hour, n, purse, soonest, what, false));
             }
+        }
+    }
+
+    /** Few doors with tolls and many guests, changed call by call: what is earned, and where it leads. */
+    private static void earnings(Random r, Checks checks) {
+        int doors = 1 + r.nextInt(3);
+        ModelTest t = new ModelTest(r.nextLong(), checks, doors, 1);
+        for (int i = 0; i < 3; i++) {
+            t.feed(toll(r));
+            t.due("keep", t.x.keep(i % doors, i), t.m.keep(i % doors, i));
+        }
+        for (int i = 0; i < 6; i++) {
+            int load = r.nextInt(10);
+            int keys = r.nextInt(4) == 0 ? r.nextInt(1 << doors) : 0;
+            int hour = r.nextInt(24);
+            int purse = r.nextInt(14);
+            t.due("guest", t.x.guest(load, keys, hour, purse), t.m.guest(load, keys, hour, purse));
+            int of = r.nextInt(doors);
+            t.due("mood", t.x.mood(of, i), t.m.mood(of, i));
+            t.due("rounds", t.x.rounds(-1), t.m.rounds(-1));
+            t.due("rounds(" + of + ")", t.x.rounds(of), t.m.rounds(of));
+            t.due("even", t.x.even(), t.m.even());
+            t.due("earns(" + of + ")", t.x.earns(of), t.m.earns(of));
         }
     }
 

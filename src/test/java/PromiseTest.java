@@ -31,6 +31,9 @@ public final class PromiseTest {
         t.way();
         t.wayByOrder();
         t.waySoonest();
+        t.wayByEachHour();
+        t.wayOfTheLast();
+        t.waysAnew();
         t.guest();
         t.clear();
         t.earns();
@@ -107,6 +110,10 @@ public final class PromiseTest {
         due("about(53)", x.about(53), 7);
         due("opens at 23", x.opens(0, 23, 1, 0, 0, 0), true);
         due("opens at 22", x.opens(0, 22, 1, 0, 0, 0), false);
+        due("opens at 0", x.opens(0, 0, 1, 0, 0, 0), false);
+        due("rain(0, 7)", x.rain(0, 7), true);
+        due("opens at 0 then", x.opens(0, 0, 1, 0, 0, 0), true);
+        due("rain(0, 9) again", x.rain(0, 9), true);
         due("rain(24, 1)", x.rain(24, 1), false);
         due("rain(3, 10)", x.rain(3, 10), false);
         for (int wrong : WRONG) {
@@ -241,7 +248,8 @@ public final class PromiseTest {
             "opens not(1)=1 and not not not not not not not 1=1;", "opens door+hour*rain-mood/gift>knocks+waited-load;",
             "opens (door+1)*-(2-load)/(-3)#-hour;", "opens 1-1=1- -1;", "opens 2=2;" + "wait1;".repeat(23),
             "wait1;".repeat(23) + "opens 2=2;", "opens" + " ".repeat(290) + "1=1;", "opens\n1\n=\n1\n;\n",
-            "opens " + "0".repeat(291) + "<1;"};
+            "opens " + "0".repeat(291) + "<1;", "opens not 1=1" + " and not 1=1".repeat(12) + ";",
+            "opens -1" + "+-1".repeat(12) + "=1;", "opens (1)" + "*(1)".repeat(12) + "=-(-(1));", "opens 1=1" + "+1".repeat(145) + ";"};
         for (String text : good) {
             RoadOfDoors x = new RoadOfDoors(1);
             Checks.put(x, text);
@@ -280,7 +288,8 @@ public final class PromiseTest {
             {"opens 1=1 or or 1=1;", 1, 13}, {"opens +1=1;", 1, 6}, {"opens 1* *1=1;", 1, 9}, {"opens 1 1=1;", 1, 8},
             {"opens with=1;", 1, 6}, {"opens Door=1;", 1, 6}, {"opens doors=1;", 1, 6}, {"opens 1==1;", 1, 8},
             {"opens 1=<1;", 1, 8}, {"opens 1< =1;", 1, 9}, {"opens 1!1;", 1, 7}, {"opens\t1=1;", 1, 5},
-            {"opens\r1=1;", 1, 5}, {"opens \u00e91=1;", 1, 6}, {"opens \0", 1, 6}, {"Opens 1=1;", 1, 0},
+            {"opens\r1=1;", 1, 5}, {"opens \u00e91=1;", 1, 6}, {"opens \0", 1, 6}, {"wait 1;\0", 1, 7}, {"\0", 1, 0}, {"wait 1;\u00ff", 1, 7},
+            {"Opens 1=1;", 1, 0},
             {"knock with 1;", 1, 6}, {"knock 1 with;", 1, 12}, {"knock 1 with 1", 1, 14}, {"knock door with 1;", 1, 6},
             {"knock -1 with 1;", 1, 6}, {"wait;", 1, 4}, {"wait 1 1;", 1, 7}, {"wait -1;", 1, 5}, {"wait", 1, 4},
             {"10000 opens", 1, 0}, {"opens 1 10000=1;", 1, 8}, {"knock 1 10000 1;", 1, 8}, {"wait 1;10000;", 1, 7},
@@ -655,6 +664,79 @@ public final class PromiseTest {
         due("one less", z.way(0, 0, 0, 48, 39, false, -1), -3);
     }
 
+    /** What he gives falls hour by hour from the first at which the door opens. */
+    private void wayByEachHour() {
+        of(18, "way by each hour");
+        for (int first = 0; first < 18; first++) {
+            RoadOfDoors x = kept(1, "opens hour>=" + first + " and gift+hour-" + first + ">=5;");
+            for (int purse = 0; purse <= 6; purse++) {
+                int gift = Math.min(5, purse);
+                due("hours from " + first + " for " + purse, x.way(0, 0, 0, 48, purse, true, -2), first + 6 - gift);
+                due("gifts from " + first + " for " + purse, x.way(0, 0, 0, 48, purse, true, -1), gift);
+                due("no hour to wait", x.way(0, 0, 0, first + 5 - gift, purse, true, -1), -3);
+                due("cheapest from " + first + " for " + purse, x.way(0, 0, 0, 48, purse, false, -2), first + 6);
+            }
+        }
+    }
+
+    private void wayOfTheLast() {
+        of(18, "way of the last");
+        RoadOfDoors x = kept(8, "wait 1;", "wait 1;", "wait 1;",
+                "opens door*hour*load*waited*gift=7*23*9*9*5 and knocks=7 and mood=9;");
+        x.mood(7, 9);
+        due("the last of all", x.way(9, 127, 7, 17, 5, false, 16), 75);
+        due("its hours", x.way(9, 127, 7, 17, 5, true, -2), 17);
+        due("another load", x.way(8, 127, 7, 17, 5, false, 16), -3);
+        x.guest(9, 127, 7, 5);
+        due("what it earns", x.earns(7), 5);
+    }
+
+    /** What ways and rounds found once is found anew, when what they rest on is another. */
+    private void waysAnew() {
+        of(18, "ways anew");
+        RoadOfDoors x = kept(2, "opens gift>=mood+rain;", "opens gift>=1;");
+        x.keep(1, 0);
+        x.guest(0, 0, 0, 9);
+        due("gifts", x.way(0, 0, 0, 2, 9, false, -1), 0);
+        due("rounds", x.rounds(0), 1);
+        x.mood(0, 3);
+        due("gifts by a mood", x.way(0, 0, 0, 2, 9, false, -1), 3);
+        due("rounds by a mood", x.rounds(0), 0);
+        due("earns by a mood", x.earns(0), 3);
+        x.image();
+        x.rain(0, 1);
+        due("gifts in rain", x.way(0, 0, 0, 2, 9, false, -1), 4);
+        due("earns: waits for less", x.earns(0), 3);
+        due("rounds by the other's", x.rounds(1), 1);
+        x.moods(1);
+        due("gifts by moods", x.way(0, 0, 0, 2, 9, false, -1), 3 + 1 + 2620 % 10);
+        x.back();
+        due("gifts behind back", x.way(0, 0, 0, 2, 9, false, -1), 3);
+        due("rounds behind back", x.rounds(0), 0);
+        x.hinge(0, false);
+        x.mood(1, 1);
+        due("rounds, not hinged", x.rounds(1), 0);
+        x.hinge(0, true);
+        x.mood(0, 0);
+        due("rounds, hinged", x.rounds(0), 1);
+        x.hinge(0, false);
+        due("rounds, not hinged again", x.rounds(0), 0);
+        x.hinge(0, true);
+        due("rounds, hinged again", x.rounds(0), 1);
+        Checks.tell(x, "opens gift>=2;");
+        due("rounds by a text more", x.rounds(0), 2);
+        x.keep(0, 2);
+        due("rounds by its own", x.rounds(NONE), 1);
+        due("rounds of the other", x.rounds(1), 2);
+        x.keep(1, 2);
+        due("rounds by their own", x.rounds(NONE), 0);
+        x.clear();
+        x.guest(0, 0, 0, 3);
+        due("rounds by another guest", x.rounds(0), 1);
+        x.guest(0, 0, 0, 9);
+        due("rounds by a guest more", x.rounds(0), 2);
+    }
+
     private void guest() {
         of(19, "guest");
         RoadOfDoors x = new RoadOfDoors(2);
@@ -852,6 +934,9 @@ public final class PromiseTest {
         due("as hinged", x.kept(1, 2), 3);
         x.keep(1, 2);
         due("whatever its rule", x.kept(1, 2), 3);
+        due("the first of door 0", x.kept(0, 0), 23);
+        x.seen(0, 0, 1, 5, 0, true);
+        due("seen alone", x.kept(0, 0), 3);
         Checks.tell(x, "opens rain=6 and knocks=1 and hour=3 and waited=2 and door=1 and gift=2;");
         due("not in this rain", x.kept(1, 2), 3);
         x.rain(3, 6);
