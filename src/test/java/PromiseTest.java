@@ -40,6 +40,7 @@ public final class PromiseTest {
         t.even();
         t.rounds();
         t.roundsWithoutEnd();
+        t.roundsToTheLast();
         t.seen();
         t.kept();
         t.imageAndBack();
@@ -888,6 +889,40 @@ public final class PromiseTest {
         due("nothing is changed", x.about(10), 0);
         x.clear();
         due("without guests", x.rounds(NONE), 0);
+    }
+
+    /** Found by search: rules that settle behind 20 rounds, and others that would behind 21. */
+    private void roundsToTheLast() {
+        of(23, "rounds to the last");
+        RoadOfDoors x = kept(8, "opens gift*2>=door+4 and door#0 or hour=12 and gift>=2 or hour=3 and gift>=4;",
+                "opens gift>=load-5 or hour<6 and gift>=1 or waited>=2 and gift>=3 or gift>=mood-0;",
+                "opens hour<0 and gift>=3 and door#6 or gift>=mood-7 or gift>=load-0 or gift>=mood-2;", "opens gift>=3;");
+        begins(x, 984, new int[] {2, 0, 2, 2, 1, 3, 1, 0}, new int[][] {{9, 0, 19, 18}, {9, 0, 21, 82}, {6, 0, 23, 8}});
+        due("20 rounds", x.rounds(NONE), 20);
+        int[] then = new int[8];
+        for (int door = 0; door < 8; door++) {
+            then[door] = x.rounds(door);
+        }
+        begins(x, 984, then, new int[0][]);
+        due("then nothing changes", x.rounds(NONE), 0);
+        due("and it is even", x.even(), NONE);
+        RoadOfDoors y = kept(7, "opens gift>=load-0 or gift>=2 and door#1 or waited>=2 and gift>=1 and door#4 or gift*1>=door+4;",
+                "opens hour=5 and gift>=0 or hour<1 and gift>=3 or gift*1>=door+1;", "opens hour=11 and gift>=3;",
+                "opens gift>=1 or hour=14 and gift>=3;");
+        begins(y, 7288, new int[] {3, 1, 1, 0, 2, 2, 0},
+                new int[][] {{1, 0, 10, 18}, {0, 0, 5, 4}, {8, 0, 16, 92}, {3, 0, 2, 13}});
+        due("21 rounds", y.rounds(NONE), -2);
+        due("of a door", y.rounds(3), -2);
+    }
+
+    private static void begins(RoadOfDoors x, int seed, int[] rules, int[][] guests) {
+        x.moods(seed);
+        for (int door = 0; door < rules.length; door++) {
+            x.keep(door, rules[door]);
+        }
+        for (int[] g : guests) {
+            x.guest(g[0], g[1], g[2], g[3]);
+        }
     }
 
     private void seen() {
