@@ -6,6 +6,7 @@ public final class RoadOfDoors {
 
     private static final int NOT_SO = -2;
     private static final int NO_WAY = -3;
+    private static final int WHAT_HOURS = -2;
 
     private static final int MOST_DOORS = 8;
     private static final int HOURS = 24;
@@ -335,7 +336,7 @@ public final class RoadOfDoors {
         if (what == NONE) {
             return ways.gifts;
         }
-        if (what == NOT_SO) {
+        if (what == WHAT_HOURS) {
             return ways.hours;
         }
         return within(what, 0, ways.hours - 1) && what < MOST_WAY_HOURS ? ways.acts[what] : NO_WAY;
@@ -1243,7 +1244,7 @@ public final class RoadOfDoors {
         }
 
         private static int joined(int kind, int a, int b) {
-            long value = 0L;
+            long value;
             switch (kind) {
                 case OR:
                     return a | b;
