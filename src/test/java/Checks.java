@@ -1,9 +1,27 @@
 /** Counts what is as due, prints what is not, and ends a test. */
 final class Checks {
     private static final int MOST_PRINTED = 20;
+    private static final long MOST_MILLISECONDS = 15 * 60 * 1000L;
 
     private int passed;
     private int failed;
+
+    /** No call may fail to end: a test that does is ended as one that fails. */
+    Checks() {
+        Thread watch = new Thread(Checks::stops);
+        watch.setDaemon(true);
+        watch.start();
+    }
+
+    private static void stops() {
+        try {
+            Thread.sleep(MOST_MILLISECONDS);
+        } catch (InterruptedException e) {
+            return;
+        }
+        System.out.println("a call does not end");
+        Runtime.getRuntime().halt(1);
+    }
 
     void due(String what, long got, long want) {
         if (got == want) {

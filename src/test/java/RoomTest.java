@@ -10,6 +10,7 @@ import java.util.Random;
 public final class RoomTest {
     private static final int MOST_OBJECTS = 100;
     private static final int MOST_ELEMENTS = 15000;
+    private static final int ROADS = 50;
 
     private final Map<Object, Object> objects = new IdentityHashMap<>();
     private long elements = 0;
@@ -23,7 +24,7 @@ public final class RoomTest {
         checks.due("few objects", room.objects.size() <= MOST_OBJECTS, true);
         checks.due("few elements", room.elements <= MOST_ELEMENTS, true);
         calls(x, 1);
-        checks.due("calls make nothing", made(x) < 20000, true);
+        checks.due("calls make nothing", made() < 20000, true);
         checks.end();
     }
 
@@ -49,13 +50,19 @@ public final class RoomTest {
         }
     }
 
-    /** Bytes made while some 100000 calls are done; the machine's own are few. */
-    private static long made(RoadOfDoors x) {
+    /** Bytes made while some 20000 calls are done; the machine's own are few. */
+    private static long made() {
+        RoadOfDoors[] roads = new RoadOfDoors[ROADS];
+        for (int i = 0; i < ROADS; i++) {
+            roads[i] = new RoadOfDoors(8);
+        }
         com.sun.management.ThreadMXBean threads =
                 (com.sun.management.ThreadMXBean) ManagementFactory.getThreadMXBean();
         long id = Thread.currentThread().getId();
         long before = threads.getThreadAllocatedBytes(id);
-        calls(x, 200);
+        for (RoadOfDoors x : roads) {
+            calls(x, 4);
+        }
         return threads.getThreadAllocatedBytes(id) - before;
     }
 
