@@ -641,9 +641,11 @@ public final class RoadOfDoors {
             System.arraycopy(other.rain, 0, rain, 0, HOURS);
             System.arraycopy(other.mood, 0, mood, 0, MOST_DOORS);
             System.arraycopy(other.rule, 0, rule, 0, MOST_DOORS);
-            System.arraycopy(other.unhinged, 0, unhinged, 0, MOST_DOORS);
             System.arraycopy(other.guests, 0, guests, 0, MOST_GUESTS * GUEST_ROW);
             System.arraycopy(other.seen, 0, seen, 0, MOST_SEEN * SEEN_ROW);
+            for (int door = 0; door < MOST_DOORS; door++) {
+                unhinged[door] = other.unhinged[door];
+            }
             traveller.becomes(other.traveller);
             told = other.told;
             guestCount = other.guestCount;

@@ -6,7 +6,9 @@ import java.lang.reflect.Modifier;
 import java.nio.file.Files;
 import java.nio.file.Path;
 import java.util.List;
+import java.util.Map;
 import java.util.Set;
+import java.util.TreeMap;
 import java.util.TreeSet;
 import java.util.regex.Matcher;
 import java.util.regex.Pattern;
@@ -20,6 +22,7 @@ public final class LanguageTest {
     private static final int MOST_CLASSES = 12;
     private static final int MOST_FIELDS = 20;
     private static final int MOST_PARAMETERS = 7;
+    private static final int MOST_DEEP = 8;
 
     private final Checks checks = new Checks();
 
@@ -31,9 +34,12 @@ public final class LanguageTest {
             code.append(line.replaceFirst("//.*|/\\*\\*.*\\*/", "").replaceAll("\"[^\"]*\"", "\"\"")).append('\n');
         }
         t.face();
+        t.faceTold();
         t.classes();
         t.words(code.toString());
+        t.rowsCopied(code.toString());
         t.lengths(lines);
+        t.depths(code.toString());
         t.checks.end();
     }
 
@@ -54,6 +60,44 @@ public final class LanguageTest {
         }
         checks.due("rule 1: one constructor", RoadOfDoors.class.getDeclaredConstructors().length, 1);
         checks.due("rule 1: final", Modifier.isFinal(RoadOfDoors.class.getModifiers()), true);
+    }
+
+    /** Each line of the document's face is so, by types and all. */
+    private void faceTold() {
+        String document = Edges.rawDocument();
+        int from = document.indexOf("public final class RoadOfDoors {");
+        checks.due("the document tells the face", document.isEmpty() || from >= 0, true);
+        if (from < 0) {
+            return;
+        }
+        String face = document.substring(from, document.indexOf("\n}", from));
+        int constants = 0;
+        Set<String> told = new TreeSet<>();
+        for (String line : face.substring(face.indexOf('\n') + 1).split("\n")) {
+            String bare = line.trim().replaceAll(" \\w+(?=[,)])", "");
+            constants += bare.equals("public static final int NONE = -1;") ? 1 : 0;
+            told.add(bare);
+        }
+        checks.due("the face: NONE", constants == 1 && RoadOfDoors.NONE == -1, true);
+        told.remove("public static final int NONE = -1;");
+        Set<String> found = new TreeSet<>();
+        for (Method m : RoadOfDoors.class.getDeclaredMethods()) {
+            if (Modifier.isPublic(m.getModifiers())) {
+                found.add("public " + m.getReturnType() + " " + m.getName() + "(" + types(m.getParameterTypes()) + ");");
+            }
+        }
+        for (Constructor<?> made : RoadOfDoors.class.getConstructors()) {
+            found.add("public RoadOfDoors(" + types(made.getParameterTypes()) + ");");
+        }
+        checks.due("the face is " + told + ", but " + found, found.equals(told), true);
+    }
+
+    private static String types(Class<?>[] types) {
+        StringBuilder row = new StringBuilder();
+        for (Class<?> type : types) {
+            row.append(row.length() == 0 ? "" : ", ").append(type);
+        }
+        return row.toString();
     }
 
     private void classes() {
@@ -98,6 +142,46 @@ public final class LanguageTest {
         int made = code.split("\\bnew ", -1).length - 1;
         int rows = code.split("= new ", -1).length - 1;
         checks.due("rule 12: new stands behind =", made, rows);
+    }
+
+    /** The library copies and fills rows of numbers alone: not of boolean, not of classes. */
+    private void rowsCopied(String code) {
+        Matcher rows = Pattern.compile("\\b(?!(?:int|long|short|byte|char|double|float)\\[)\\w+\\[\\] (\\w+)").matcher(code);
+        while (rows.find()) {
+            absent(4, code, "\\b(arraycopy|fill|copyOf|copyOfRange)\\([^;]*\\b" + rows.group(1) + "\\b(?!\\.)");
+            absent(4, code, "\\b" + rows.group(1) + "\\.clone\\(");
+        }
+    }
+
+    /** By the names alone: what bears one name counts as one, so that none is found less deep than it is. */
+    private void depths(String code) {
+        Map<String, Set<String>> calls = new TreeMap<>();
+        Matcher bodies = Pattern.compile("(?ms)^( {4}| {8})(?=\\w)[^\\n;=]*?(\\w+)\\([^\\n]*\\) \\{$(.*?)^\\1\\}$").matcher(code);
+        while (bodies.find()) {
+            Set<String> called = calls.computeIfAbsent(bodies.group(2), name -> new TreeSet<>());
+            Matcher call = Pattern.compile("\\b(\\w+)\\(").matcher(bodies.group(3));
+            while (call.find()) {
+                called.add(call.group(1));
+            }
+        }
+        // One becomes() copies the traveller's: the only name that calls itself, and no deeper than that.
+        checks.due("becomes() is a name of two", calls.getOrDefault("becomes", Set.of()).remove("becomes"), true);
+        checks.due("rule 11: methods seen", calls.keySet().containsAll(FACE), true);
+        for (String name : FACE) {
+            int deep = deep(calls, name, 0);
+            checks.due("rule 11: " + name + " goes " + deep + " deep", deep <= MOST_DEEP, true);
+        }
+    }
+
+    private static int deep(Map<String, Set<String>> calls, String name, int around) {
+        int most = around;
+        if (calls.containsKey(name) && around <= MOST_DEEP) {
+            most = around + 1;
+            for (String called : calls.get(name)) {
+                most = Math.max(most, deep(calls, called, around + 1));
+            }
+        }
+        return most;
     }
 
     private void absent(int rule, String code, String pattern) {
